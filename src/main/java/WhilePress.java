@@ -31,7 +31,8 @@ public final class WhilePress {
     private static final int PENDING_LIMIT = 400;
     // Far above what any call can need: a bound for loops that end by themselves.
     private static final int TURN_LIMIT = 1000000;
-    private static final long STEPS_PER_FUEL = 20000;
+    // One statement may call a def of ints alone some 400 times, and that may have some 750 of them.
+    private static final long STEPS_PER_FUEL = 1000000;
 
     // The OPs of the code; the text's steps and the binary signs have the same numbers.
     private static final int SET = 0;
@@ -406,7 +407,8 @@ public final class WhilePress {
             size = tapeSize;
             count = 0;
             int at = 0;
-            while (at < size) {
+            // Each turn goes on by a byte at least.
+            for (int left = size; left > 0 && at < size; left--) {
                 int b = bytes[at];
                 if (b == ' ' || b == '\n') {
                     at++;
@@ -2283,8 +2285,7 @@ public final class WhilePress {
             Arrays.fill(slots, 0);
             top = 0;
             calls = 0;
-            // Between two ticks lies less than a whole text with the empty defs that it calls.
-            for (long left = STEPS_PER_FUEL * (fuelThere + 1L); left > 0 && end == GOING; left--) {
+            for (long left = STEPS_PER_FUEL * (fuelThere + 1L); left > 0 && end == GOING && at < of.count; left--) {
                 int op = of.ops[at];
                 int arg = of.args[at];
                 at++;

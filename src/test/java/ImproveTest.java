@@ -27,6 +27,8 @@ public final class ImproveTest {
     private static void constants() {
         becomes("", "HALT");
         becomes("print 1+2*3;", "PRINT 7; HALT");
+        becomes("print -3;print !3;print ~3;", "PRINT -3; PRINT 0; PRINT -4; HALT");
+        becomes("print 5-0;print 5/1;print 0%5;", "PRINT 5; PRINT 5; PRINT 0; HALT");
         becomes("int a;a=4;print a-1;", "PRINT 3; HALT");
         becomes("int a;print a;", "PRINT 0; HALT");
         becomes("int a;a=2;if(a)print 1;else print 2;", "PRINT 1; HALT");

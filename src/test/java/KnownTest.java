@@ -129,6 +129,12 @@ public final class KnownTest {
         p.x.improve();
         knows(p, 4, "5 6 5 6 0 0");
         knows(p, 8, "- 6 5 6 - -");
+        Press q = lowered("int a,b;read a;if(a)b=4;else b=5;print b+1;while(1)b=b+1;");
+        q.x.improve();
+        Press.due("known behind improve()", q.x.known(4, 1), 4);
+        knows(q, 6, "- - - 0 0 0 0");
+        Press.due("improve() again", q.x.improve(), q.x.told(5));
+        knows(q, 5, "- 0 - 0 0 0 0");
         p.read("int c; c=9;");
         Press.dueThrow("known() of a new text", "IllegalStateException", () -> p.x.known(0, 0));
         p.x.lower();

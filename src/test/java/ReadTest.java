@@ -47,6 +47,8 @@ public final class ReadTest {
         ok("row r[1]; r[0]=1;", 1);
         ok("int a; if(1)if(2)a=1;else a=2;else a=3;", 5);
         ok("print 1;print(1);print-1;print!1;print~1;", 5);
+        ok("def f(){}if((1)+1){}while(f()+1){}do{}while((1)+f());print(1)+1;", 7);
+        ok("row r[1];int a;def f(){return (1)+1;}r[(1)+1]=(1)+1;a=(1)+1;", 3);
         ok("int a;a=1;print a;int a;print a;", 4);
     }
 
@@ -93,6 +95,8 @@ public final class ReadTest {
         fault("def f(){}f()+1;", 2, 12);
         fault("def f(){}f(", 2, 11);
         fault("int a;a", 2, 7);
+        fault("int a;a;", 2, 7);
+        fault("int a;a{}", 2, 7);
         fault("int a;a+1;", 2, 7);
         fault("int a;a==1;", 2, 7);
         fault("int a;a=;", 2, 8);
@@ -104,6 +108,14 @@ public final class ReadTest {
         fault("int a;a=12a;", 2, 10);
         fault("int;", 2, 3);
         fault("int a,;", 2, 6);
+        fault("int {}", 2, 4);
+        fault("int a,{}", 2, 6);
+        fault("row {}", 2, 4);
+        fault("row r[{}", 2, 6);
+        fault("def {}", 2, 4);
+        fault("def f({}", 2, 6);
+        fault("read;", 2, 4);
+        fault("print 1;int {}", 2, 12);
         fault("int a b;", 2, 6);
         fault("int 1;", 2, 4);
         fault("int if;", 2, 4);
@@ -285,6 +297,8 @@ public final class ReadTest {
         ok("print 1" + "-1".repeat(40) + ";", 1);
         ok("print " + "-(".repeat(12) + "1" + ")".repeat(12) + ";", 1);
         fault("print " + "-(".repeat(12) + "-1" + ")".repeat(12) + ";", 5, 30);
+        fault("row r[1];" + "{".repeat(24) + "r[0]=1;", 5, 34);
+        ok("row r[1];" + "{".repeat(23) + "r[0]=1;" + "}".repeat(23), 24);
         ok("row r[1];print " + "r[".repeat(24) + "0" + "]".repeat(24) + ";", 1);
         fault("row r[1];print " + "r[".repeat(25) + "0" + "]".repeat(25) + ";", 5, 15 + 49);
         ok("def f(x){}print " + "f(".repeat(24) + "0" + ")".repeat(24) + ";", 1);

@@ -206,6 +206,11 @@ public final class RunTextTest {
         used("def f(){int a;a=1;{return a;}}f();", 3);
         used("row r[1];r[0]=1;print r[0];", 2);
         used("print 1/0;", 1);
+        StringBuilder ints = new StringBuilder("def f(){int n0");
+        for (int k = 1; k < 400; k++) {
+            ints.append(",n").append(Integer.toString(k, 36));
+        }
+        used(ints + ";}print f()" + "+f()".repeat(350) + ";", 1);
         Press p = Press.of("while(1){}");
         Press.dueText("a ring", p.run(0, 100000), "6: (0, 100000)");
         p.x.lower();
