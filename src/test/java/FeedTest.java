@@ -9,7 +9,7 @@ public final class FeedTest {
     }
 
     private static void aNewObject() {
-        WhilePress x = new WhilePress();
+        Counted x = new Counted();
         Press.due("NONE", WhilePress.NONE, -1);
         Press.due("TOO_MUCH", WhilePress.TOO_MUCH, -7);
         Press.due("place() at first", x.place(), -1);
@@ -29,7 +29,7 @@ public final class FeedTest {
     }
 
     private static void whatMayBeFed() {
-        WhilePress x = new WhilePress();
+        Counted x = new Counted();
         Press.due("8 bytes", x.feed(0x2020202020202020L, 8), 8);
         Press.due("the lowest byte alone counts", x.feed(0xFFFFFFFFFFFFFF00L | 'a', 1), 9);
         Press.due("byte 10", x.feed(10, 1), 10);
@@ -38,7 +38,7 @@ public final class FeedTest {
         Press.due("byte 126 as the eighth", x.feed(0x7E20202020202020L, 8), 20);
         Press.due("read() of a bad word", x.read(), -2);
         Press.due("the lowest byte comes first", new Press().feed("print 1;").x.read(), 1);
-        WhilePress y = new WhilePress();
+        Counted y = new Counted();
         y.feed('p' | 'r' << 8 | 'i' << 16, 3);
         y.feed('n' | 't' << 8, 2);
         y.feed(' ' | '7' << 8 | ';' << 16 | 0xFF000000, 3);
@@ -48,7 +48,7 @@ public final class FeedTest {
     }
 
     private static void whatMayNotBeFed() {
-        WhilePress x = new WhilePress();
+        Counted x = new Counted();
         int[] wrongN = {0, -1, 9, 64, Integer.MIN_VALUE, Integer.MAX_VALUE};
         for (int n : wrongN) {
             Press.dueThrow("feed(.., " + n + ")", "IllegalArgumentException", () -> x.feed(0x2020202020202020L, n));
@@ -66,7 +66,7 @@ public final class FeedTest {
     }
 
     private static void theTapesEnd() {
-        WhilePress x = new WhilePress();
+        Counted x = new Counted();
         for (int k = 0; k < 374; k++) {
             x.feed(0x2020202020202020L, 8);
         }

@@ -130,29 +130,22 @@ public final class LowerTest {
         Press.dueText("the text runs", p.run(0, 1000), "0: (0, 400)");
         Press.due("too much again", p.x.lower(), WhilePress.TOO_MUCH);
 
-        Press q = new Press();
-        q.read(ints(300));
+        Press q = Press.of(ints(300));
         Press.due("300 registers", q.x.lower(), 1);
         Press.due("told(4)", q.x.told(4), 300);
         Press.due("improve()", q.x.improve(), 1);
         Press.due("colour(299)", q.x.colour(299), -1);
-        q.read(ints(301));
-        Press.due("301 registers", q.x.lower(), WhilePress.TOO_MUCH);
-        q.read(ints(299) + "print n0;");
-        Press.due("300 with a new one", q.x.lower(), 3);
-        q.read(ints(300) + "print n0;");
-        Press.due("301 with a new one", q.x.lower(), WhilePress.TOO_MUCH);
-        Press.due("700 ints", q.read(ints(700)), 0);
-        Press.due("700 registers", q.x.lower(), WhilePress.TOO_MUCH);
+        Press.due("301 registers", Press.of(ints(301)).x.lower(), WhilePress.TOO_MUCH);
+        Press.due("300 with a new one", Press.of(ints(299) + "print n0;").x.lower(), 3);
+        Press.due("301 with a new one", Press.of(ints(300) + "print n0;").x.lower(), WhilePress.TOO_MUCH);
+        Press.due("700 registers", Press.of(ints(700)).x.lower(), WhilePress.TOO_MUCH);
 
         StringBuilder doubled = new StringBuilder("def f0(){}");
         for (int k = 1; k < 15; k++) {
             doubled.append("def f" + k + "(){f" + (k - 1) + "();f" + (k - 1) + "();}");
         }
-        q.read(doubled + "f6();");
-        Press.due("127 calls", q.x.lower(), 128);
-        q.read(doubled + "f14();");
-        Press.due("32767 calls", q.x.lower(), WhilePress.TOO_MUCH);
+        Press.due("127 calls", Press.of(doubled + "f6();").x.lower(), 128);
+        Press.due("32767 calls", Press.of(doubled + "f14();").x.lower(), WhilePress.TOO_MUCH);
     }
 
     private static String ints(int n) {

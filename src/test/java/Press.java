@@ -3,7 +3,7 @@ final class Press {
     static int wrong = 0;
     static int looked = 0;
 
-    final WhilePress x = new WhilePress();
+    final Counted x = new Counted();
 
     static void due(String what, long got, long want) {
         looked++;
@@ -72,6 +72,38 @@ final class Press {
         return p;
     }
 
+    /** The text has no fault, and so many statements. */
+    static void ok(String text, int statements) {
+        Press p = new Press();
+        due("read() of " + text, p.read(text), statements);
+        due("place() of " + text, p.x.place(), -1);
+    }
+
+    /** The text has this fault, at this byte. */
+    static void fault(String text, int number, int place) {
+        Press p = new Press();
+        due("read() of " + text, p.read(text), -number);
+        due("place() of " + text, p.x.place(), place);
+    }
+
+    /** A new one that has read, lowered and improved the text. */
+    static Press improved(String text) {
+        Press p = of(text);
+        p.x.lower();
+        p.x.improve();
+        return p;
+    }
+
+    /** So many different NAMES of one or two letters, none of them a KEY. */
+    static String[] names(int n) {
+        String[] names = new String[n];
+        for (int k = 0; k < n; k++) {
+            String name = (k < 26 ? "" : "" + (char) ('a' + k / 26 - 1)) + (char) ('a' + k % 26);
+            names[k] = name.equals("if") || name.equals("do") ? name + "0" : name;
+        }
+        return names;
+    }
+
     Press input(int... numbers) {
         for (int v : numbers) {
             x.input(v);
@@ -93,6 +125,19 @@ final class Press {
     String shown(int which) {
         String all = run(which, 100000);
         return all.substring(0, all.indexOf(" ("));
+    }
+
+    /** The same END and numbers must come from the text, the code and both improved ones. */
+    static void shows(String text, String want, int... input) {
+        Press p = improved(text).input(input);
+        for (int which = 0; which < 4; which++) {
+            dueText("run(" + which + ") of " + text, p.shown(which), want);
+        }
+    }
+
+    /** A number as an expr of the text. */
+    static String number(int v) {
+        return v == Integer.MIN_VALUE ? "(-2147483647-1)" : v < 0 ? "-" + -v : "" + v;
     }
 
     private static final String[] OPS = {"SET", "COPY", "+", "-", "*", "/", "%", "&", "|", "^", "<<", ">>", "==", "!=",

@@ -14,15 +14,11 @@ public final class ReadTest {
     }
 
     private static void ok(String text, int statements) {
-        Press p = new Press();
-        Press.due("read() of " + text, p.read(text), statements);
-        Press.due("place() of " + text, p.x.place(), -1);
+        Press.ok(text, statements);
     }
 
     private static void fault(String text, int number, int place) {
-        Press p = new Press();
-        Press.due("read() of " + text, p.read(text), -number);
-        Press.due("place() of " + text, p.x.place(), place);
+        Press.fault(text, number, place);
     }
 
     private static void statementsCount() {

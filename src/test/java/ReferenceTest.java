@@ -162,7 +162,7 @@ public final class ReferenceTest {
 
     private static String whole(String text) {
         Press p = new Press();
-        WhilePress x = p.input(3, 0, 2).x;
+        Counted x = p.input(3, 0, 2).x;
         int statements = p.read(text);
         if (statements < 0) {
             return "fault " + -statements + " " + x.place();
@@ -184,7 +184,7 @@ public final class ReferenceTest {
         return out.toString();
     }
 
-    private static String run(WhilePress x, int which) {
+    private static String run(Counted x, int which) {
         StringBuilder out = new StringBuilder("\nrun" + which + " " + x.run(which, 200) + " ");
         for (int i = 0; i < x.told(0); i++) {
             out.append(i == 0 ? "" : ",").append(x.printed(i));
@@ -192,7 +192,7 @@ public final class ReferenceTest {
         return out + " " + x.told(1) + " " + x.told(2);
     }
 
-    private static String code(WhilePress x, boolean improved) {
+    private static String code(Counted x, boolean improved) {
         StringBuilder out = new StringBuilder("\ncode ");
         for (int i = 0; i < x.told(improved ? 5 : 3); i++) {
             for (int what = 0; what < 5; what++) {
@@ -202,7 +202,7 @@ public final class ReferenceTest {
         return out.toString();
     }
 
-    private static String known(WhilePress x) {
+    private static String known(Counted x) {
         StringBuilder out = new StringBuilder("\nknown ");
         for (int i = 0; i < x.told(3); i++) {
             out.append(i > 0 ? " " : "");
@@ -213,7 +213,7 @@ public final class ReferenceTest {
         return out.toString();
     }
 
-    private static String live(WhilePress x, boolean improved) {
+    private static String live(Counted x, boolean improved) {
         StringBuilder out = new StringBuilder("\nlive ");
         for (int i = 0; i < x.told(improved ? 5 : 3); i++) {
             out.append(i > 0 ? " " : "");

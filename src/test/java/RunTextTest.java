@@ -14,24 +14,14 @@ public final class RunTextTest {
         Press.end("RunTextTest");
     }
 
-    /** The same END and numbers must come from the text, the code and both improved ones. */
     private static void shows(String text, String want, int... input) {
-        Press p = Press.of(text).input(input);
-        p.x.lower();
-        p.x.improve();
-        for (int which = 0; which < 4; which++) {
-            Press.dueText("run(" + which + ") of " + text, p.shown(which), want);
-        }
+        Press.shows(text, want, input);
     }
 
     /** The value of an expr, by constants and with every number read, so that nothing is known before. */
     private static void is(String expr, int a, int b, int want) {
-        shows("int a,b;a=" + number(a) + ";b=" + number(b) + ";print " + expr + ";", "0: " + want);
+        shows("int a,b;a=" + Press.number(a) + ";b=" + Press.number(b) + ";print " + expr + ";", "0: " + want);
         shows("int a,b;read a;read b;print " + expr + ";", "0: " + want, a, b);
-    }
-
-    private static String number(int v) {
-        return v == Integer.MIN_VALUE ? "-2147483647-1" : v < 0 ? "-" + -v : "" + v;
     }
 
     private static void numbers() {
