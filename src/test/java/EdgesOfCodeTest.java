@@ -14,7 +14,9 @@ public final class EdgesOfCodeTest {
         ringsOfCallsThatAreTooMuch();
         theLastOf400();
         theLastOf300();
+        aFullCodeOfExpressions();
         whereWordsOfRegistersMeet();
+        highAndLowRegisters();
         theStateComesFirst();
         indexesOfCode();
         fieldsThatItHasNot();
@@ -261,6 +263,57 @@ public final class EdgesOfCodeTest {
         Press.due("colour(299)", p.x.colour(299), -1);
         Press.dueThrow("colour(300)", "IndexOutOfBoundsException", () -> p.x.colour(300));
         Press.dueText("by colours", p.input(-9).shown(3), "0: -9 7");
+    }
+
+    /** As many different expressions as there is room for, each held by a register of its own. */
+    private static void aFullCodeOfExpressions() {
+        becomes("int a;read a;" + "a=a;".repeat(198) + "print a;", 400, 3);
+        // 130 that are needed, and then the last of them again.
+        StringBuilder text = new StringBuilder("int a;row r[1];read a;");
+        StringBuilder want = new StringBuilder("READ r0");
+        for (int k = 1; k <= 130; k++) {
+            text.append("print a+").append(k).append(";");
+            want.append("; + r").append(2 * k).append(" r0 ").append(k).append("; PRINT r").append(2 * k);
+        }
+        Press.dueText("all are other ones", Press.improved(text.toString()).listing(true), want + "; HALT");
+        int[] again = {1, 31, 32, 33, 63, 64, 65, 126, 127, 128, 129, 130};
+        for (int k : again) {
+            Press p = Press.improved(text + "print a+" + k + ";");
+            Press.dueText(k + " again", p.listing(true), want + "; PRINT r" + 2 * k + "; HALT");
+        }
+    }
+
+    private static void becomes(String text, int lowered, int improved) {
+        Press p = Press.of(text);
+        Press.due("lower() of " + text, p.x.lower(), lowered);
+        Press.due("improve() of " + text, p.x.improve(), improved);
+    }
+
+    /** Registers of high and low numbers that live at once, with the operands on either side. */
+    private static void highAndLowRegisters() {
+        String[] names = Press.names(250);
+        int[] some = {0, 1, 31, 32, 63, 64, 65, 127, 128, 191, 192, 200, 248, 249};
+        for (int one : some) {
+            for (int two : some) {
+                if (one == two) {
+                    continue;
+                }
+                String a = names[one];
+                String b = names[two];
+                Press p = Press.of(ints(250) + "read " + a + ";read " + b + ";print " + a + "-" + b + ";");
+                p.x.lower();
+                Press.due(one + " is live beside " + two, p.x.isLive(false, 1, one) ? 1 : 0, 1);
+                Press.due(two + " is live beside " + one, p.x.isLive(false, 1, two) ? 1 : 0, 1);
+                Press.due(one + " is not live behind its COPY", p.x.isLive(false, 2, one) ? 1 : 0, 0);
+                Press.due(two + " is live there", p.x.isLive(false, 2, two) ? 1 : 0, 1);
+                p.x.improve();
+                Press.due("colour of the lower one", p.x.colour(Math.min(one, two)), 0);
+                Press.due("colour of the higher one", p.x.colour(Math.max(one, two)), 1);
+                Press.due("live as B", p.x.isLive(true, 1, two) ? 1 : 0, 1);
+                Press.due("live as A", p.x.isLive(true, 1, one) ? 1 : 0, 1);
+                Press.dueText("by colours", p.input(50, 8).shown(3), "0: 42");
+            }
+        }
     }
 
     /** Every register has its own life, with whatever others it may be kept. */

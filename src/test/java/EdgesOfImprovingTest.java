@@ -24,6 +24,8 @@ public final class EdgesOfImprovingTest {
         jumpsToTheNext();
         notReached();
         roundsThatChangeNothing();
+        roundsOfOperandsAlone();
+        theLeastThatHolds();
         theTwoOfACopy();
         allColoursAreZeroAtFirst();
         lowerAndImproveAgain();
@@ -56,6 +58,14 @@ public final class EdgesOfImprovingTest {
         becomes("print 2<2;print 2<=2;print 2>2;print 2>=2;print 2==2;print 2!=2;",
             "PRINT 0; PRINT 1; PRINT 0; PRINT 1; PRINT 1; PRINT 0; HALT");
         becomes("print 12&10;print 12|10;print 12^10;", "PRINT 8; PRINT 14; PRINT 6; HALT");
+        // What becomes SET stays one where another way brings another number.
+        becomes("int a,b,c;read c;a=3;if(c)b=a;else b=4;print b;", "READ r2; ZERO 4 r2; SET r1 3; JUMP 5; SET r1 4; PRINT r1; HALT");
+        becomes("int a,b,c;read c;a=3;if(c)b=a*2;else b=4;print b;", "READ r2; ZERO 4 r2; SET r1 6; JUMP 5; SET r1 4; PRINT r1; HALT");
+        becomes("int a;read a;print a&&3;", "READ r0; SET r1 0; ZERO 4 r0; SET r1 1; PRINT r1; HALT");
+        becomes("int a;read a;print a&&0;", "READ r0; PRINT 0; HALT");
+        becomes("int a;read a;print a||0;", "READ r0; SET r1 1; MANY 4 r0; SET r1 0; PRINT r1; HALT");
+        becomes("int a;read a;print a||3;", "READ r0; PRINT 1; HALT");
+        becomes("int a;read a;print a&&a;", "READ r0; SET r1 0; ZERO 4 r0; != r1 r0 0; PRINT r1; HALT");
         // With one operand that is not known nothing is known, whatever the other is.
         becomes("int a;read a;print a*0;", "READ r0; * r2 r0 0; PRINT r2; HALT");
         becomes("int a;read a;print a-a;", "READ r0; - r3 r0 r0; PRINT r3; HALT");
@@ -312,6 +322,21 @@ public final class EdgesOfImprovingTest {
         // a+1 and b+1: the operands in the first round, the second sum in the second, its copy in the third.
         becomes("int a;read a;print a+1;print a+1;", 4, "READ r0; + r2 r0 1; PRINT r2; PRINT r2; HALT");
         becomes("int a;read a;print a+1;print a+1;print a+1;", 4, "READ r0; + r2 r0 1; PRINT r2; PRINT r2; PRINT r2; HALT");
+    }
+
+    /** A round that changes nothing but operands counts as one that changes. */
+    private static void roundsOfOperandsAlone() {
+        String rest = "read c;if(c){read z;read a;}print a+b;";
+        becomes("int z,a,b,c;read z;a=z;b=a;print b;" + rest, 4,
+            "READ r0; COPY r1 r0; COPY r2 r0; PRINT r0; READ r3; ZERO 8 r3; READ r0; READ r1; + r10 r1 r2; PRINT r10; HALT");
+        becomes("int z,a,b,c;read z;a=z;b=a;print 1-b;" + rest, 4,
+            "READ r0; COPY r1 r0; COPY r2 r0; - r7 1 r0; PRINT r7; READ r3; ZERO 9 r3; READ r0; READ r1; + r11 r1 r2; PRINT r11; HALT");
+    }
+
+    /** Becomes COPY D of the least such one: r4 is defined before r1, and both hold it; by r1 it takes a round more. */
+    private static void theLeastThatHolds() {
+        becomes("int b;read b;print (b!=0||1)&&b;print b!=0;", 5, "READ r0; != r4 r0 0; PRINT r4; PRINT r4; HALT");
+        becomes("int b;read b;print b!=0;print b!=0;", 4, "READ r0; != r2 r0 0; PRINT r2; PRINT r2; HALT");
     }
 
     /** Two are APART, if at some instruction that defines the one the other is live behind it (but not the two of a COPY). */

@@ -14,6 +14,7 @@ public final class EdgesOfRunsTest {
         rightSideOnlyIf();
         fromLeftToRight();
         zeroAtFirst();
+        endsInTheMidst();
         innermostLoop();
         whatADefIs();
         dividedByZero();
@@ -171,6 +172,25 @@ public final class EdgesOfRunsTest {
         }
     }
 
+    /** A run that ended in the midst of exprs and defs leaves nothing to the next one. */
+    private static void endsInTheMidst() {
+        String level = "1|1^1&1==1<1<<1+1*(";
+        Press deep = Press.of("print " + level.repeat(24) + "1/0" + ")".repeat(24) + ";");
+        StringBuilder defs = new StringBuilder("def f0(x){print x;return 1/x;}");
+        for (int k = 1; k < 15; k++) {
+            defs.append("def f" + k + "(x){return 1+f" + (k - 1) + "(x);}");
+        }
+        Press nested = Press.of("int a;" + defs + "read a;print f14(a);");
+        nested.x.input(0);
+        for (int times = 0; times < 40; times++) {
+            Press.dueText("an expr again", deep.run(0, 9), "4: (0, 1)");
+            Press.dueText("calls again", nested.run(0, 99), "4: 0 (1, 18)");
+            Press.dueText("calls without fuel again", nested.run(0, 10), "6: (1, 10)");
+        }
+        nested.x.clear();
+        Press.dueText("what ends well", nested.input(1).run(0, 99), "0: 1 15 (1, 18)");
+    }
+
     /** break leaves the innermost loop, next goes to its test. */
     private static void innermostLoop() {
         shows("int i;while(i<2){i=i+1;while(1){break;}print i;}", "0: 1 2");
@@ -178,6 +198,43 @@ public final class EdgesOfRunsTest {
         shows("int i;do{i=i+1;if(i<3)next;print i;}while(i<4);", "0: 3 4");
         shows("int i;do{i=i+1;if(i<3)next;break;}while(i<2);print i;", "0: 2");
         shows("int i;while(i<3){do{i=i+1;if(i==2)break;}while(0);print i;}", "0: 1 2 3");
+        severalInOneLoop();
+    }
+
+    /** Each of several breaks and nexts goes where its own loop wants it, before, in and behind a loop within. */
+    private static void severalInOneLoop() {
+        for (int k = 0; k < 4; k++) {
+            String want = k < 3 ? "0: 0 " + (k + 10) + " 7" : "0: 0 13 1 2 7";
+            String body = "print i;if(a==0){print 10;break;}if(a==1){print 11;break;}if(a==2){print 12;break;}if(i==0)print 13;i=i+1;";
+            shows("int a,i;read a;while(i<3){" + body + "}print 7;", want, k);
+            shows("int a,i;read a;do{" + body + "}while(i<3);print 7;", want, k);
+            String nexts = body.replace("break", "i=i+1;next").replace("if(i==0)print 13;", "print 13;");
+            String line = k < 3 ? k + 10 + " " : "13 ";
+            String all = "0: 0 " + line + "1 " + line + "2 " + line + "7";
+            shows("int a,i;read a;while(i<3){" + nexts + "}print 7;", all, k);
+            shows("int a,i;read a;do{" + nexts + "}while(i<3);print 7;", all, k);
+        }
+        shows("def f(){int x;x=x+1;return x;}int i,j;while(i<3){i=i+1;if(i==1)next;j=0;while(j<2)j=j+1;print f();}", "0: 1 1");
+        shows("def f(){int x;x=x+1;return x;}int i,j;do{i=i+1;if(i==1)next;j=0;do j=j+1;while(j<2);print f();}while(i<3);", "0: 1 1");
+        String[] inner = {"while(j<2){j=j+1;if(a==2)break;if(a==3)next;print j;}", "do{j=j+1;if(a==2)break;if(a==3)next;print j;}while(j<2);"};
+        String[] due = {"0: 0 9", "0: 0 1 9", "0: 0 5 1 5 9", "0: 0 5 1 5 9", "0: 0 1 2 9", "0: 0 1 2 5 1 1 2 5 9"};
+        for (String loop : inner) {
+            String body = "print i;i=i+1;j=0;if(a==0)break;if(a==1)next;" + loop + "if(a==4)break;if(a==6)next;print 5;";
+            for (int a = 0; a < 6; a++) {
+                shows("int a,i,j;read a;while(i<2){" + body + "}print 9;", due[a], a);
+                shows("int a,i,j;read a;do{" + body + "}while(i<2);print 9;", due[a], a);
+            }
+            shows("int a,i,j;read a;while(i<2){" + body + "}print 9;", "0: 0 1 2 1 1 2 9", 6);
+            shows("int a,i,j;read a;do{" + body + "}while(i<2);print 9;", "0: 0 1 2 1 1 2 9", 6);
+            // A loop that is the last of another one's statement.
+            String last = "i=i+1;j=0;if(a==0)break;if(a==1)next;" + loop;
+            String[] dueLast = {"0: 9", "0: 9", "0: 9", "0: 9", "0: 1 2 1 2 9"};
+            for (int a = 0; a < 5; a++) {
+                shows("int a,i,j;read a;while(i<2){" + last + "}print 9;", dueLast[a], a);
+                shows("int a,i,j;read a;do{" + last + "}while(i<2);print 9;", dueLast[a], a);
+                shows("int a,i,j;read a;while(i<2){print i;" + last + "}", a == 0 ? "0: 0" : a == 4 ? "0: 0 1 2 1 1 2" : "0: 0 1", a);
+            }
+        }
     }
 
     /** A def called gets its numbers; it is what return tells, 0 without. */
@@ -188,6 +245,12 @@ public final class EdgesOfRunsTest {
         shows("def f(a,b,c,d,e,g){return a*100000+b*10000+c*1000+d*100+e*10+g;}print f(1,2,3,4,5,6);", "0: 123456");
         shows("def f(){while(1)while(1)return 5;}print f();", "0: 5");
         shows("def f(x){return x;print 8;}f(1);print f(f(2)+f(3));", "0: 5");
+        for (int a = 0; a < 4; a++) {
+            shows("def f(x){if(x==0)return 5;if(x==1)return 6;while(1){if(x==2)return 7;break;}}int a;read a;print f(a);",
+                "0: " + (a == 3 ? 0 : a + 5), a);
+        }
+        // What a call as a statement is goes, however many there are.
+        shows("def f(x){return x;}int i;while(i<5000){f(i);i=f(i)+1;}print i;print f(3)*2;", "0: 5000 6");
     }
 
     /** 4 divided by 0. */

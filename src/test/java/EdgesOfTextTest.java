@@ -333,6 +333,10 @@ public final class EdgesOfTextTest {
     private static void placesOfAFullTape() {
         fault("}", 2, 0);
         String text = "print 1;".repeat(374);
+        ok("{}".repeat(1500), 1500);
+        fault("{}".repeat(1499) + "{{", 2, 3000);
+        fault("{}".repeat(1499) + "{ ", 2, 3000);
+        fault("{}".repeat(1499) + "}", 2, 2998);
         fault(text + "print 1 ", 2, 3000);
         fault(text + "print  1", 2, 3000);
         fault(text + "      }", 2, 2998);
@@ -510,8 +514,10 @@ public final class EdgesOfTextTest {
         fault(many(9, "row #[1];"), 6, 8 * 9 + 4);
         fault(many(12, "row #[1];"), 6, 8 * 9 + 4);
         fault(many(8, "row #[1];") + "int z;row y[0];", 6, 8 * 9 + 10);
-        Press rows = Press.of(many(8, "row #[9];") + many(8, "#[8]=7;") + "h[0]=5;print h[0]+a[0];print h[8];");
-        Press.dueText("the eighth row has its own cells", rows.shown(0), "0: 5 7");
+        Press rows = Press.improved(many(8, "row #[9];") + "int i;" + many(8, "i=i+1;#[8]=i;") + many(8, "print #[8];"));
+        for (int which = 0; which < 4; which++) {
+            Press.dueText("each row has its own cells, run " + which, rows.shown(which), "0: 1 2 3 4 5 6 7 8");
+        }
         for (int n = 1; n <= 15; n++) {
             ok(many(n, "def #(){}"), 0);
         }

@@ -2,6 +2,7 @@
 public final class LowerTest {
     public static void main(String[] args) {
         exprs();
+        strengths();
         statements();
         loops();
         defs();
@@ -59,6 +60,50 @@ public final class LowerTest {
             "SET r0 0; ZERO 3 1; != r0 2 0; SET r1 1; MANY 6 3; != r1 4 0; STORE of 0 r0 r1; HALT");
     }
 
+    /** By strength, the weakest first; each from the left to the right. */
+    private static void strengths() {
+        String[][] levels = {{"|"}, {"^"}, {"&"}, {"==", "!="}, {"<", "<=", ">", ">="}, {"<<", ">>"}, {"+", "-"}, {"*", "/", "%"}};
+        for (int i = 0; i < levels.length; i++) {
+            for (int j = 0; j < levels.length; j++) {
+                for (String one : levels[i]) {
+                    for (String two : levels[j]) {
+                        String leftFirst = one + " r0 1 2; " + two + " r1 r0 3; PRINT r1; HALT";
+                        String rightFirst = two + " r0 2 3; " + one + " r1 1 r0; PRINT r1; HALT";
+                        lowers("print 1" + one + "2" + two + "3;", 2, i >= j ? leftFirst : rightFirst);
+                    }
+                }
+            }
+            for (String op : levels[i]) {
+                withTests(op);
+                withSignsBefore(op);
+            }
+        }
+        lowers("print 1||2&&3;", 2, "SET r0 1; MANY 6 1; SET r1 0; ZERO 5 2; != r1 3 0; != r0 r1 0; PRINT r0; HALT");
+        lowers("print 1&&2||3;", 2, "SET r0 1; SET r1 0; ZERO 4 1; != r1 2 0; MANY 6 r1; != r0 3 0; PRINT r0; HALT");
+        lowers("print 1||2||3;", 2, "SET r0 1; SET r1 1; MANY 4 1; != r1 2 0; MANY 6 r1; != r0 3 0; PRINT r0; HALT");
+        lowers("print -!~1;", 3, "turn r0 1; not r1 r0; neg r2 r1; PRINT r2; HALT");
+        lowers("print !-1&&~2;", 4,
+            "SET r0 0; neg r1 1; not r2 r1; ZERO 6 r2; turn r3 2; != r0 r3 0; PRINT r0; HALT");
+    }
+
+    /** && and || are weaker than all others. */
+    private static void withTests(String op) {
+        lowers("print 1&&2" + op + "3;", 2, "SET r0 0; ZERO 4 1; " + op + " r1 2 3; != r0 r1 0; PRINT r0; HALT");
+        lowers("print 1" + op + "2&&3;", 2, "SET r0 0; " + op + " r1 1 2; ZERO 4 r1; != r0 3 0; PRINT r0; HALT");
+        lowers("print 1||2" + op + "3;", 2, "SET r0 1; MANY 4 1; " + op + " r1 2 3; != r0 r1 0; PRINT r0; HALT");
+        lowers("print 1" + op + "2||3;", 2, "SET r0 1; " + op + " r1 1 2; MANY 4 r1; != r0 3 0; PRINT r0; HALT");
+    }
+
+    /** - ! ~ before are stronger than all others. */
+    private static void withSignsBefore(String op) {
+        String[] signs = {"-", "!", "~"};
+        String[] ops = {"neg", "not", "turn"};
+        for (int k = 0; k < 3; k++) {
+            lowers("print " + signs[k] + "1" + op + "2;", 2, ops[k] + " r0 1; " + op + " r1 r0 2; PRINT r1; HALT");
+            lowers("print 1" + op + signs[k] + "2;", 2, ops[k] + " r0 2; " + op + " r1 1 r0; PRINT r1; HALT");
+        }
+    }
+
     private static void statements() {
         lowers("int a;a=5;", 1, "SET r0 5; HALT");
         lowers("int a,b;a=b;", 3, "COPY r2 r1; COPY r0 r2; HALT");
@@ -109,6 +154,12 @@ public final class LowerTest {
         lowers("def f(){while(1)return 2;}f();", 1, "SET r0 0; ZERO 5 1; SET r0 2; JUMP 5; JUMP 1; HALT");
         lowers("def f(){return 1&&2;}print f()&&3;", 3,
             "SET r0 0; SET r1 0; SET r2 0; ZERO 5 1; != r2 2 0; COPY r1 r2; JUMP 7; ZERO 9 r1; != r0 3 0; PRINT r0; HALT");
+        // Each expr of a list begins anew.
+        lowers("int a;def f(x,y){}f(a,a&&2);", 7,
+            "COPY r1 r0; SET r2 0; COPY r3 r0; ZERO 5 r3; != r2 2 0; COPY r4 r1; COPY r5 r2; SET r6 0; HALT");
+        lowers("int a;def f(x,y,z){}print f(1||a,a,3&&a);", 10,
+            "SET r1 1; MANY 4 1; COPY r2 r0; != r1 r2 0; COPY r3 r0; SET r4 0; ZERO 9 3; COPY r5 r0; != r4 r5 0;"
+            + " COPY r6 r1; COPY r7 r3; COPY r8 r4; SET r9 0; PRINT r9; HALT");
         lowers("int a;def f(){a=1;}int b;f();b=2;", 3, "SET r2 0; SET r0 1; SET r1 2; HALT");
     }
 

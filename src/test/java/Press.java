@@ -153,7 +153,7 @@ final class Press {
             int form = x.code(improved, i, 4);
             String a = ((form & 1) != 0 ? " " : " r") + x.code(improved, i, 2);
             String b = ((form & 2) != 0 ? " " : " r") + x.code(improved, i, 3);
-            String line = OPS[op];
+            String line = OPS[op] + (form < 0 || form > 3 ? " FORM" : "");
             if (op <= 1) {
                 line += " r" + d + a + bare(improved, i, 3);
             } else if (op <= 17) {

@@ -161,14 +161,21 @@ public final class ReferenceTest {
     }
 
     private static String whole(String text) {
-        Press p = new Press();
-        Counted x = p.input(3, 0, 2).x;
+        return whole(new Press().input(3, 0, 2), text);
+    }
+
+    /** Every answer of the text, when this one reads it. */
+    static String whole(Press p, String text) {
+        Counted x = p.x;
         int statements = p.read(text);
         if (statements < 0) {
             return "fault " + -statements + " " + x.place();
         }
         StringBuilder out = new StringBuilder("read " + statements + run(x, 0));
         int n = x.lower();
+        if (n == WhilePress.TOO_MUCH) {
+            return out.append("\ntoo much " + x.told(3) + " " + x.told(4)).toString();
+        }
         out.append("\nlower " + n + " " + x.told(4) + code(x, false));
         boolean isSmall = n * x.told(4) <= 6000;
         out.append(isSmall ? known(x) + live(x, false) : "");
