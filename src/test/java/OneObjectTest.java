@@ -19,6 +19,7 @@ public final class OneObjectTest {
         fullTapesOneBehindTheOther();
         theSameTextAgain();
         lookingChangesNothing();
+        twoInTurn();
         Press.end("OneObjectTest");
     }
 
@@ -236,6 +237,34 @@ public final class OneObjectTest {
             }
         }
         return out.toString();
+    }
+
+    /** All memory is the class's own: what one object does changes nothing of another one. */
+    private static void twoInTurn() {
+        Press one = new Press().feed("int a;read a;");
+        Press two = new Press().feed("row r[2];print r[0]+5;");
+        Press.due("input of the one", one.x.input(8), 1);
+        Press.due("input of the other", two.x.input(9), 1);
+        Press.due("read() of the one", one.feed("print a*2;").x.read(), 2);
+        Press.due("read() of the other", two.feed("#").x.read(), -1);
+        Press.due("place() of the one", one.x.place(), -1);
+        Press.due("place() of the other", two.x.place(), 22);
+        Press.due("lower() of the one", one.x.lower(), 5);
+        Press.dueThrow("lower() of the other", "IllegalStateException", () -> two.x.lower());
+        Press.due("read() of the other again", two.read("print 3-4;"), 1);
+        Press.due("lower() of the other again", two.x.lower(), 3);
+        Press.due("improve() of the other", two.x.improve(), 2);
+        Press.due("told(5) of the one", one.x.told(5), 0);
+        Press.dueText("run of the one", one.run(1, 50), "0: 16 (1, 5)");
+        Press.dueText("run of the other", two.run(2, 50), "0: -1 (0, 2)");
+        Press.due("printed(0) of the one", one.x.printed(0), 16);
+        Press.due("improve() of the one", one.x.improve(), 4);
+        Press.dueText("improved code of the one", one.listing(true), "READ r0; * r2 r0 2; PRINT r2; HALT");
+        Press.dueText("improved code of the other", two.listing(true), "PRINT -1; HALT");
+        Press.due("clear() of the other", two.x.clear(), 1);
+        Press.dueText("run of the one again", one.run(3, 50), "0: 16 (1, 4)");
+        Press.due("colours of the one", one.x.told(6), 1);
+        Press.due("colours of the other", two.x.told(6), 0);
     }
 
     private static String looks(Press p) {
